@@ -858,7 +858,7 @@ public final class ClauseMatrix {
         }
 
         boolean hasFailing() {
-            return there && size > 0 && failing[0];
+            return size > 0 && failing[0];
         }
 
         int mostTests() {
@@ -912,7 +912,7 @@ public final class ClauseMatrix {
 
         /** The last branch is for what no other takes: all other ints, or the last constructor. */
         private int branchFor(int node, int symbol) {
-            int last = lastBranch(node);
+            int last = firstBranch[node] + branchCount[node] - 1;
             for (int branch = firstBranch[node]; branch < last; branch++) {
                 if (label[branch] == symbol) {
                     return branch;
@@ -927,8 +927,12 @@ public final class ClauseMatrix {
 
         /** The least number from 0 on that has no branch of its own at this test of INT. */
         int leastWithoutBranch(int node) {
+            if (!has(node)) {
+                return 0;
+            }
+            int last = lastBranch(node);
             int least = 0;
-            for (int i = 0; i < MOST_CLAUSES && branchFor(node, least) != lastBranch(node); i++) {
+            for (int i = 0; i < MOST_CLAUSES && branchFor(node, least) != last; i++) {
                 least++;
             }
             return least;

@@ -739,6 +739,7 @@ public final class ClauseMatrixPromises {
         due("no FAIL", 6, y.kinds());
         kindsHeedNumbers();
         kindsHeedClauses();
+        kindsOfANewTree();
         ClauseMatrix z = justFitting();
         z.compile();
         due("kinds of size 60", 33, z.kinds());
@@ -780,6 +781,22 @@ public final class ClauseMatrixPromises {
         }
     }
 
+    /** What stood in the former tree, where now a leaf stands, has no part in the answer. */
+    private static void kindsOfANewTree() {
+        ClauseMatrix x = twigsToTheDeepest();
+        x.compile();
+        due("nodes, leaves and FAIL", 15 + 8 + 1, x.kinds());
+        x.clear();
+        x.type();
+        for (int i = 0; i < 4; i++) {
+            x.constructor(1, -1, -1);
+        }
+        x.begin(1);
+        x.row(x.build(3, -1, -1));
+        due("size", 5, x.compile());
+        due("a test, a leaf and FAIL", 3, x.kinds());
+    }
+
     /** The same row, but two clauses, and so two kinds. */
     private static void kindsHeedClauses() {
         ClauseMatrix x = numbers(2);
@@ -811,6 +828,24 @@ public final class ClauseMatrixPromises {
         ClauseMatrix z = twigsToTheDeepest();
         due("size", 31, z.compile());
         due("fifteen tests", 15, z.longest());
+        longestByOtherNumbers();
+    }
+
+    /** Rows (1, _) and (_, 1): place 3 is tested below the branch of the other numbers alone. */
+    private static void longestByOtherNumbers() {
+        ClauseMatrix x = new ClauseMatrix();
+        x.type();
+        x.constructor(1, 0, 0);
+        x.begin(1);
+        int any = x.any();
+        int one = x.number(1);
+        x.row(x.build(0, one, any));
+        x.row(x.build(0, any, one));
+        due("size", 6, x.compile());
+        due("three tests", 3, x.longest());
+        int two = x.valueNumber(2);
+        due("run of (2, 2)", FAIL, x.run(x.valueOf(0, two, two)));
+        due("three tests", 3, x.tests());
     }
 
     /** Row k has nodes at the places 1 to 7 and an end at place 8 + k; the value 0 is an end. */
@@ -996,6 +1031,25 @@ public final class ClauseMatrixPromises {
         y.row(y.build(0, 0, -1));
         y.compile();
         dueWitness(y, new int[][] {{2, 1}, {2, 1}, {0, 0}});
+        anythingHasNoSymbol();
+    }
+
+    /** What the former witness had at a place has no part in the answer. */
+    private static void anythingHasNoSymbol() {
+        ClauseMatrix x = lists();
+        int any = x.any();
+        x.row(x.build(0, -1, -1));
+        x.row(x.build(1, x.number(0), any));
+        x.compile();
+        dueWitness(x, new int[][] {{2, 1}, {1, 1}, {0, 0}});
+        x.clear();
+        x.type();
+        x.constructor(1, -1, -1);
+        x.constructor(1, 0, 1);
+        x.begin(1);
+        x.row(x.build(0, -1, -1));
+        x.compile();
+        dueWitness(x, new int[][] {{2, 1}, {0, 0}, {0, 0}});
     }
 
     private static int fillFullTwig(int[][] want, int from, int place) {
