@@ -89,6 +89,7 @@ public final class ClauseMatrixEdges {
         valueNumber();
         valueOfWrongParts();
         valueOfLimits();
+        beforeAndAfterBegin();
         run();
         runRefused();
         tests();
@@ -111,22 +112,37 @@ public final class ClauseMatrixEdges {
 
     private static void clear() {
         Script.says("promise 2", "All is as it was at first.");
-        String everything = LISTS + """
-            any = 0; number 7 = 1; build 0 -1 -1 = 2; build 1 1 2 = 3
-            valueNumber 7 = 0; valueOf 0 -1 -1 = 1; valueOf 1 0 1 = 2
-            row 3 = 0; row 2 = 1; compile; run 2 = 0; tests = 3
-            """;
         String full = """
             type = 1..5; constructor 1 -1 -1 = 0..3; constructor 2 0 -1 = 4..7
             constructor 3 0 0 = 8; constructor 4 3 3 = 9; constructor 5 4 5 = 10; constructor 5 1 -1 = 11
             any = 0..59; valueNumber # = 0..59; begin 5 = 0; row # = 0..7; compile = 1
             """;
-        for (String before : new String[] {"", "clear", everything, full, OF_SIZE_SIXTY + "compile = 60",
-            OF_SIZE_SIXTY + "build 0 1 2 = 31; row 31 = 4; compile = TOOBIG", everything + "clear\n" + everything}) {
-            Script.asNewAfter(before + "\nclear", Questions.all());
+        String lists = LISTS + """
+            any = 0; number 7 = 1; build 0 -1 -1 = 2; build 1 1 2 = 3
+            valueNumber 7 = 0; valueOf 0 -1 -1 = 1; valueOf 1 0 1 = 2
+            row 3 = 0; row 2 = 1; compile; run 2 = 0; tests = 3
+            """;
+        String anyAlone = TWIGS + "any = 0; row 0 = 0..3; compile = 1; valueOf 1 -1 -1 = 0; run 0 = 0; tests = 0\n";
+        String onlyDeclared = "type = 1; constructor 1 0 0 = 0; any = 0; valueNumber 7 = 0\n";
+        String tooBig = OF_SIZE_SIXTY + "build 0 1 2 = 31; row 31 = 4; compile = TOOBIG\n";
+        String deepest = TWIGS + deepestTwigs() + "compile = 31\n";
+        String flat = "type = 1; constructor 1 -1 -1 = 0..3; begin 1 = 0; build 3 -1 -1 = 0; row 0 = 0; compile = 5; kinds = 3\n";
+        String numbers = "begin 0 = 0\n" + EIGHT_NUMBERS + "row 14 = 0; compile = 10; kinds = 10\n";
+        String alikeTests = """
+            type = 1; constructor 1 -1 -1 = 0..2; type = 2; constructor 2 1 0 = 3; begin 2 = 0
+            any = 0; build 0 -1 -1 = 1; number 1 = 2; build 3 1 0 = 3; build 3 0 2 = 4; row 3 = 0; row 4 = 1; compile = 9; kinds = 6
+            """;
+        String[] all = {
+            "", "clear\n", "type = 1\n", "begin 0 = 0\n", onlyDeclared, lists, anyAlone, tooBig, deepest, flat, numbers, alikeTests,
+        };
+        for (String after : all) {
+            for (String before : all) {
+                Script.alike(after, before + "clear\n" + after, Questions.all());
+            }
         }
+        Script.alike("", full + "clear\n", Questions.all());
         Script.run(full, "clear", full);
-        Script.run(everything, "clear; tests = 0", NO_TREE);
+        Script.run(lists, "clear; tests = 0", NO_TREE);
     }
 
     private static void useOfAnObject() {
@@ -259,6 +275,8 @@ public final class ClauseMatrixEdges {
             type = 1..2; constructor 1 -1 -1 = 0; constructor 1 2 -1 = 1; constructor 2 0 1 = 2
             any = 0; number 7 = 1; build 0 -1 -1 = 2
             """;
+        Script.says("promise 8", "-1 standing for each argument that c does not have: its number.");
+        Script.run(before, "build 0 -1 -1 = 3; build 1 0 -1 = 4; build 2 1 2 = 5; build {0|1|2} -1 0 = NOPATTERN; build 2 -1 -1 = NOPATTERN");
         Script.says("promise 8", "NOCONSTRUCTOR when there is no c;");
         Script.run(before, "build {-1|-2|3|12|MIN|MAX} -1 -1 = NOCONSTRUCTOR; build 2 0 0 = 3");
         Script.says("promise 8", "NOPATTERN when p or q is no pattern where c has that argument,");
@@ -403,6 +421,10 @@ public final class ClauseMatrixEdges {
         Script.run("begin 0 = 0; compile = 1; compile = 1; kinds = 1");
         Script.run(LISTS, "compile = 1; kinds = 1; any = 0; row 0 = 0; compile = 1; compile = 1; kinds = 1");
         Script.run("begin 0 = 0", EIGHT_NUMBERS, "row 14 = 0; row 14 = 1; compile = 10");
+        for (String rows : new String[] {OF_SIZE_SIXTY, OF_SIZE_SEVENTY, TWIGS + deepestTwigs()}) {
+            // A tree for the rows before has no part in the tree for them all.
+            Script.alike(rows, rows.replaceAll("(row \\d+ = \\d+)", "compile; $1"), Questions.all());
+        }
         Script.says("promise 11", "NOMATCH when no match was begun;");
         Script.run("compile = NOMATCH; any = 0; begin 1 = NOTYPE; compile = NOMATCH; begin 0 = 0; compile = 1");
         Script.run("type = 1; begin 0 = EMPTY; compile = NOMATCH", NO_TREE);
@@ -565,6 +587,8 @@ public final class ClauseMatrixEdges {
             type = 1..2; constructor 1 -1 -1 = 0; constructor 1 2 -1 = 1; constructor 2 0 1 = 2; constructor 2 -1 -1 = 3
             valueNumber 7 = 0; valueOf 0 -1 -1 = 1; valueOf 3 -1 -1 = 2; any = 0..9
             """;
+        Script.says("promise 19", "-1 standing for each argument that c does not have: its number.");
+        Script.run(before, "valueOf 0 -1 -1 = 3; valueOf 1 2 -1 = 4; valueOf 2 0 1 = 5; valueOf {0|1|2} -1 1 = NOVALUE; valueOf {1|2} -1 -1 = NOVALUE");
         Script.says("promise 19", "NOCONSTRUCTOR when there is no c;");
         Script.run(before, "valueOf {-1|-2|4|12|MIN|MAX} -1 -1 = NOCONSTRUCTOR; valueOf 2 0 1 = 3");
         Script.says("promise 19", "NOVALUE when x or y is no value where c has that argument,");
@@ -590,6 +614,25 @@ public final class ClauseMatrixEdges {
         Script.run(LISTS, long60.toString(), """
             any = 0; number 7 = 1; build 1 1 0 = 2; build 1 1 2 = 3; build 1 1 3 = 4; row 4 = 0; compile
             run 59 = 0; tests = 6; run 4 = 0; tests = 6; run 3 = FAIL; tests = 5; run 2 = FAIL; tests = 3; run 1 = FAIL; tests = 1
+            """);
+    }
+
+    private static void beforeAndAfterBegin() {
+        Script.says("promises 6 to 9, 18 and 19", "none of them names a match as wanted");
+        String made = """
+            any = 0; number 7 = 1; build 0 -1 -1 = 2; build 1 1 2 = 3; either 2 3 = 4
+            valueNumber 7 = 0; valueOf 0 -1 -1 = 1; valueOf 1 0 1 = 2
+            build 2 -1 -1 = NOCONSTRUCTOR; build 1 0 9 = NOPATTERN; build 1 2 2 = ILLTYPED; either 9 0 = NOPATTERN; either 1 2 = ILLTYPED
+            valueOf 2 -1 -1 = NOCONSTRUCTOR; valueOf 1 0 9 = NOVALUE; valueOf 1 1 1 = ILLTYPED
+            """;
+        String lists = "type = 1; constructor 1 -1 -1 = 0; constructor 1 0 1 = 1\n";
+        Script.alike(lists + made + "begin 1 = 0\n", lists + "begin 1 = 0\n" + made, Questions.all());
+        Script.alike(lists + made + "begin 1 = 0; row 4 = 0\n", lists + "begin 1 = 0\n" + made + "row 4 = 0\n", Questions.all());
+        Script.run(lists, "any = 0..59; any = FULL; valueNumber 1 = 0..59; valueNumber 1 = FULL; begin 1 = 0; any = FULL; valueNumber 1 = FULL");
+        // Types and constructors may come after patterns and values, too.
+        Script.run("""
+            any = 0; number 7 = 1; valueNumber 7 = 0; type = 1; constructor 1 0 -1 = 0; build 0 1 -1 = 2; valueOf 0 0 -1 = 1
+            type = 2; constructor 2 1 -1 = 1; build 1 2 -1 = 3; valueOf 1 1 -1 = 2; begin 2 = 0; row 3 = 0; compile = 5; run 2 = 0; tests = 3
             """);
     }
 

@@ -8,6 +8,7 @@ import java.nio.file.Path;
 import java.util.ArrayList;
 import java.util.Arrays;
 import java.util.List;
+import java.util.Random;
 import java.util.Set;
 import java.util.TreeSet;
 import java.util.regex.Matcher;
@@ -44,6 +45,7 @@ public final class ClauseMatrixForm {
         wordsAreAllowed(code);
         objectsAreMadeWithTheObject(code);
         methodsAreShort(code);
+        noCallThrows();
         System.out.println(wrong == 0 ? "the form is kept" : wrong + " faults of form");
         if (wrong != 0) {
             System.exit(1);
@@ -161,6 +163,34 @@ public final class ClauseMatrixForm {
                 holds(i - begin < 60, "short: " + lines[begin].trim());
             }
         }
+    }
+
+    /** Whatever its arguments are and whatever came before it; beyond the 512th call, too. */
+    private static void noCallThrows() throws ReflectiveOperationException {
+        int[] odd = {-2, -1, 12, 16, 31, 32, 59, 60, Integer.MIN_VALUE, Integer.MAX_VALUE};
+        Random random = new Random(7);
+        for (int run = 0; run < 60; run++) {
+            ClauseMatrix x = new ClauseMatrix();
+            for (int call = 0; call < 3000; call++) {
+                // Now and then all is cleared, so that states of every kind are met.
+                String name = METHODS[random.nextInt(200) == 0 ? 0 : 1 + random.nextInt(METHODS.length - 1)].split(" ")[1];
+                Method method = methodOfTheFace(name);
+                Object[] arguments = new Object[method.getParameterCount()];
+                for (int i = 0; i < arguments.length; i++) {
+                    arguments[i] = random.nextInt(3) == 0 ? odd[random.nextInt(odd.length)] : random.nextInt(14) - 1;
+                }
+                method.invoke(x, arguments);
+            }
+        }
+    }
+
+    private static Method methodOfTheFace(String name) throws ReflectiveOperationException {
+        for (Method method : ClauseMatrix.class.getMethods()) {
+            if (method.getName().equals(name)) {
+                return method;
+            }
+        }
+        throw new NoSuchMethodException(name);
     }
 
     private static int indent(String line) {

@@ -20,6 +20,11 @@ public final class ClauseMatrixRefusals {
     private static final String ROW_AFTER_IT = COMPILED + "row 10 = 3\n";
     private static final String EIGHT_ROWS = BEGUN + "row 3 = 0..6; row 2 = 7; compile = 7; run 2 = 0; tests = 3\n";
     private static final String SIXTEEN_CLAUSES = BEGUN + "either 10 10 = 11; either 11 11 = 12; row 12 = 0; row 12 = 1; compile = 3; run 2 = 0\n";
+    /** All of them the empty list or the list of 7; pattern 16 is a list with two alternatives. */
+    private static final String FIFTEEN_CLAUSES = BEGUN + """
+        either 2 3 = 11; either 11 11 = 12; either 12 12 = 13; either 12 11 = 14; either 14 2 = 15; build 1 6 2 = 16
+        row 13 = 0; row 15 = 1; compile = 7; run 2 = 0
+        """;
     private static final String ALL_PATTERNS = COMPILED + "number 3 = 11..59\n";
     private static final String ALL_VALUES = COMPILED + "valueNumber 3 = 4..59\n";
     private static final String WITH_EMPTY_TYPE = DECLARED + "type = 3\n";
@@ -178,9 +183,9 @@ public final class ClauseMatrixRefusals {
     /** Each refused call by itself, and all of them one after the other. */
     private static void changeNothing(String setUp, String... refused) {
         for (String call : refused) {
-            Script.changesNothing(setUp, call, Questions.all());
+            Script.alike(setUp, setUp + call, Questions.all());
         }
-        Script.changesNothing(setUp, String.join("\n", refused), Questions.all());
+        Script.alike(setUp, setUp + String.join("\n", refused), Questions.all());
     }
 
     private static void refusedChangesNothing(String promises) {
@@ -230,7 +235,8 @@ public final class ClauseMatrixRefusals {
         changeNothing(DECLARED, "row 0 = NOMATCH", "row 3 = NOMATCH", "row 60 = NOMATCH", "compile = NOMATCH");
         changeNothing(COMPILED, "row 11 = NOPATTERN", "row -1 = NOPATTERN", "row MAX = NOPATTERN", "row 1 = ILLTYPED", "row 8 = ILLTYPED", "row 9 = ILLTYPED");
         changeNothing(EIGHT_ROWS, "row 0 = FULL", "row 10 = FULL", "row 5 = FULL", "row 11 = NOPATTERN", "row 1 = ILLTYPED");
-        changeNothing(SIXTEEN_CLAUSES, "row 0 = FULL", "row 2 = FULL", "row 12 = FULL", "row 13 = NOPATTERN", "row 1 = ILLTYPED");
+        changeNothing(FIFTEEN_CLAUSES, "row 10 = FULL", "row 11 = FULL", "row 13 = FULL", "row 16 = FULL");
+        changeNothing(SIXTEEN_CLAUSES, "row 0 = FULL", "row 2 = FULL", "row 3 = FULL", "row 5 = FULL", "row 12 = FULL", "row 13 = NOPATTERN", "row 1 = ILLTYPED");
     }
 
     private static void questionsChangeNothing() {

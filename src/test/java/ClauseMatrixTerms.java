@@ -53,6 +53,8 @@ public final class ClauseMatrixTerms {
         leaves();
         mostAskedPlace();
         leastPlace();
+        placeIsOpenNoMore();
+        typeOfTest();
         branchesOfConstructors();
         branchesOfNumbers();
         orderOfNumbers();
@@ -64,6 +66,7 @@ public final class ClauseMatrixTerms {
         witnessOfNumbers();
         leastNumberWithoutBranch();
         symbolsInOrder();
+        noTree();
         Script.finish();
     }
 
@@ -306,6 +309,47 @@ public final class ClauseMatrixTerms {
             """);
         // Place 2 and place 3 are asked at by one clause each; the first clause left asks at place 3 alone.
         Script.run(PAIRS, "build 3 0 1 = 4; build 3 1 0 = 5; row 4 = 0; row 5 = 1; compile = 11; valueOf 3 1 0 = 3; run 3 = 0; tests = 2");
+    }
+
+    private static void placeIsOpenNoMore() {
+        Script.says("terms", "The place is open no more.");
+        Script.run("begin 0 = 0; number 5 = 0; number 6 = 1; row 0 = 0; row 0 = 1; row 1 = 2; compile = 4; longest = 1; useless 1 = 1");
+        Script.run(TWIGS, "row 1 = 0; row 1 = 1; row 2 = 2; compile = 3; longest = 1");
+        Script.run(PAIRS, "build 3 1 1 = 4; build 3 1 2 = 5; build 3 1 3 = 6; row 4 = 0; row 5 = 1; row 6 = 2; row 4 = 3; compile = 8; longest = 3; useless 3 = 1");
+    }
+
+    private static void noTree() {
+        Script.says("terms", "There is no tree: compile was not called,");
+        String asked = "kinds = NOTREE; longest = NOTREE; useless 0 = NOTREE; witnessLength = NOTREE; witnessKind 0 = NOTREE; witness 0 = 0; run 0 = NOTREE\n";
+        String rows = TWIGS + "valueOf 1 -1 -1 = 0; row 1 = 0\n";
+        Script.run(rows, asked);
+        Script.says("terms", "or failed,");
+        // Each of the eight rows asks at one way of its own down to the places 8 to 15.
+        Script.run(TWIGS, "valueOf 1 -1 -1 = 0; build 0 2 0 = 3; build 0 0 2 = 4; build 0 3 0 = 5; build 0 0 3 = 6; build 0 4 0 = 7; build 0 0 4 = 8\n"
+            + "build 0 {5..8} 0; build 0 0 {5..8}; row {9..16}; compile = TOOBIG\n", asked);
+        Script.says("terms", "or a row came after it.");
+        Script.run(rows, "compile = 3; kinds = 3; row 1 = 1\n", asked, "compile = 3; kinds = 3; row 0 = 2\n", asked);
+        Script.says("terms", "There is no tree: compile was not called, or failed, or a row came after it. (it stays when something else came)");
+        Script.run(rows, """
+            compile = 3; any = 3; number 4 = 4; build 0 0 0 = 5; either 1 2 = 6; valueNumber 4 = 1; valueOf 0 0 0 = 2; kinds = 3; longest = 1
+            useless 0 = 0; witnessLength = 1; witnessKind 0 = 2; witness 0 = 1; run 0 = FAIL; run 2 = 0; tests = 1
+            type = CLOSED; begin 1 = CLOSED; row 9 = NOPATTERN; kinds = 3; compile = 3; kinds = 3
+            """);
+    }
+
+    private static void typeOfTest() {
+        Script.says("terms", "All clauses left that ask there do so for one type, the type of the test.");
+        // Place 2 is of type 2 below constructor 0, and of INT below constructor 1.
+        String before = """
+            type = 1..2; constructor 1 2 -1 = 0; constructor 1 0 -1 = 1; constructor 2 -1 -1 = 2; constructor 2 -1 -1 = 3; begin 1 = 0
+            number 3 = 0; build 3 -1 -1 = 1; build 0 1 -1 = 2; build 1 0 -1 = 3
+            valueNumber 3 = 0; valueNumber 2 = 1; valueOf 3 -1 -1 = 2; valueOf 2 -1 -1 = 3
+            valueOf 1 0 -1 = 4; valueOf 1 1 -1 = 5; valueOf 0 2 -1 = 6; valueOf 0 3 -1 = 7
+            """;
+        Script.run(before, "row 2 = 0; row 3 = 1; compile = 7; kinds = 6; run 4 = 1; run 5 = FAIL; run 6 = 0; run 7 = FAIL\n"
+            + "witnessLength = 2; witness 0 = 0; witnessKind 1 = 2; witness 1 = 2");
+        Script.run(before, "row 3 = 0; row 2 = 1; compile = 7; kinds = 6; run 4 = 0; run 5 = FAIL; run 6 = 1; run 7 = FAIL\n"
+            + "witnessLength = 2; witness 0 = 0; witnessKind 1 = 2; witness 1 = 2");
     }
 
     private static void branchesOfConstructors() {

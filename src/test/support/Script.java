@@ -51,35 +51,22 @@ final class Script {
         script.end();
     }
 
-    /** Whether two objects, of which one alone got a refused call, answer all questions alike. */
-    static void changesNothing(String setUp, String refused, List<String> questions) {
-        run(setUp, refused);
+    /** Whether two objects, each with calls of its own behind it, answer all questions alike. */
+    static void alike(String one, String other, List<String> questions) {
+        run(one);
+        run(other);
         for (String question : questions) {
-            List<Integer> without = answersTo(question, setUp);
-            List<Integer> with = answersTo(question, setUp, refused);
-            if (!with.equals(without)) {
-                fault("after " + refused + " other answers to " + question + "\n  " + with + "\n  instead of " + without);
+            List<Integer> due = answersTo(question, one);
+            List<Integer> got = answersTo(question, other);
+            if (!got.equals(due)) {
+                fault("after " + other + " the answers to\n" + question + "\nare " + got + "\ninstead of " + due);
             }
         }
     }
 
-    /** Whether an object to which all this was done answers all questions as a new one does. */
-    static void asNewAfter(String before, List<String> questions) {
-        run(before);
-        for (String question : questions) {
-            List<Integer> fresh = answersTo(question);
-            List<Integer> after = answersTo(question, before);
-            if (!after.equals(fresh)) {
-                fault("other answers to " + question + "\n  " + after + "\n  instead of " + fresh);
-            }
-        }
-    }
-
-    private static List<Integer> answersTo(String question, String... before) {
+    private static List<Integer> answersTo(String question, String before) {
         Script script = new Script(false);
-        for (String text : before) {
-            script.play(text);
-        }
+        script.play(before);
         script.answers.clear();
         script.play(question);
         script.end();
