@@ -77,6 +77,7 @@ public final class ClauseMatrixEdges {
         eitherLimits();
         row();
         rowLimits();
+        sixteenClausesAtTheLastPlace();
         compile();
         compileTooBig();
         kinds();
@@ -413,6 +414,28 @@ public final class ClauseMatrixEdges {
         Script.run("begin 0 = 0", EIGHT_NUMBERS, "row 8 = 0..7; row 0 = FULL; compile = 4; useless 7 = 3");
         Script.run("begin 0 = 0", EIGHT_NUMBERS, """
             row 8 = 0..6; row {9..14} = FULL; row 8 = 7; row 0 = FULL
+            """);
+    }
+
+    /** The sixteenth clause asks at place 15, the greatest one at which a pattern can ask. */
+    private static void sixteenClausesAtTheLastPlace() {
+        Script.says("promise 10", "or there would be more than sixteen clauses. (sixteen that ask at the greatest place)");
+        Script.run("""
+            type = 1; constructor 1 1 1 = 0; constructor 1 -1 -1 = 1; constructor 1 -1 -1 = 2; begin 1 = 0
+            any = 0; build 1 -1 -1 = 1; build 2 -1 -1 = 2; either 1 1 = 3; either 1 2 = 4
+            build 0 0 3 = 5; build 0 0 5 = 6; build 0 0 6 = 7; build 0 0 4 = 8; build 0 0 8 = 9; build 0 0 9 = 10
+            row 7 = 0..6; row 10 = 7; row 0 = FULL; compile = 13; kinds = 7; longest = 4
+            useless 0 = 2; useless {1..6} = 3; useless 7 = 1
+            valueOf 1 -1 -1 = 0; valueOf 2 -1 -1 = 1; valueOf 0 0 1 = 2; valueOf 0 0 2 = 3; valueOf 0 0 3 = 4; valueOf 0 0 4 = 5
+            valueOf 0 0 0 = 6; valueOf 0 0 6 = 7; valueOf 0 0 7 = 8
+            run 4 = 7; tests = 4; run 8 = 0; tests = 4; run 5 = FAIL; tests = 4; run 0 = FAIL; tests = 1
+            """);
+        Script.run("type = 1; constructor 1 1 1 = 0; constructor 1 -1 -1 = 1; constructor 1 0 0 = 2; begin 1 = 0\n", EIGHT_NUMBERS, """
+            number 8 = 15; number 9 = 16; number 10 = 17; number 11 = 18; number 12 = 19; number 13 = 20; number 14 = 21; number MAX = 22
+            either 15 16 = 23; either 17 18 = 24; either 19 20 = 25; either 21 22 = 26; either 23 24 = 27; either 25 26 = 28; either 27 28 = 29
+            any = 30; build 2 30 14 = 31; build 0 30 31 = 32; build 0 30 32 = 33; build 2 30 29 = 34; build 0 30 34 = 35; build 0 30 35 = 36
+            row 33 = 0; row 36 = 1; row 30 = FULL; compile = 27; kinds = 21; longest = 4; useless {0|1} = 0
+            valueNumber MAX = 0; valueOf 2 0 0 = 1; valueOf 0 1 1 = 2; valueOf 0 2 2 = 3; run 3 = 1; tests = 4; run 2 = FAIL; tests = 2
             """);
     }
 
