@@ -48,7 +48,8 @@ public final class ClauseMatrix {
     private static final int NO_TYPE = -1;
     private static final int NO_CLAUSE = -1;
     /** Beyond every int, so that no number is taken for it. */
-    private static final long NO_NUMBER = Long.MAX_VALUE;
+    private static final long NO_NUMBER = 1L << 32;
+    private static final long BELOW_ALL_NUMBERS = -(1L << 32);
 
     private static final int ANYTHING = 0;
     private static final int A_NUMBER = 1;
@@ -814,7 +815,7 @@ public final class ClauseMatrix {
         private boolean addNumbers(int node) {
             boolean roomy = true;
             int still = open[node] & ~(1 << place[node]);
-            long number = match.leastAbove(Long.MIN_VALUE, left[node], place[node]);
+            long number = match.leastAbove(BELOW_ALL_NUMBERS, left[node], place[node]);
             for (int i = 0; i < MOST_CLAUSES && number != NO_NUMBER && roomy; i++) {
                 int kept = match.notAskingElse(left[node], place[node], (int) number);
                 roomy = addNode((int) number, kept, still, above[node] + 1);

@@ -32,6 +32,9 @@ public final class ClauseMatrixForm {
         "package", "protected", "yield", "var", "System", "Thread", "Random", "Object", "hashCode",
         "toString", "equals");
 
+    /** Of what LANGUAGE.md allows of the library, what the program uses. */
+    private static final Set<String> LIBRARY = Set.of("Arrays.fill(", "Math.max(", "Integer.bitCount(");
+
     private static int wrong = 0;
 
     private ClauseMatrixForm() {
@@ -43,6 +46,7 @@ public final class ClauseMatrixForm {
         classesAreSmall();
         String code = withoutComments(Files.readString(Path.of(SOURCE)));
         wordsAreAllowed(code);
+        libraryIsAllowed(code);
         objectsAreMadeWithTheObject(code);
         methodsAreShort(code);
         noCallThrows();
@@ -139,6 +143,15 @@ public final class ClauseMatrixForm {
         Matcher imports = Pattern.compile("import ([^;]*);").matcher(code);
         while (imports.find()) {
             holds(imports.group(1).equals("java.util.Arrays"), "only java.util.Arrays is imported");
+        }
+    }
+
+    /** The rules name functions of the library, but none of its constants, such as the greatest long. */
+    private static void libraryIsAllowed(String code) {
+        String withoutImports = code.replaceAll("import [^;]*;", "");
+        Matcher uses = Pattern.compile("\\b[A-Z]\\w*[a-z]\\w*\\.\\w+\\(?").matcher(withoutImports);
+        while (uses.find()) {
+            holds(LIBRARY.contains(uses.group()), uses.group() + " is allowed");
         }
     }
 
